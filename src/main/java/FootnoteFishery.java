@@ -84,7 +84,6 @@ public final class FootnoteFishery {
 
     /** Creates a fishery without notes, nets and licence, on day 0. */
     public FootnoteFishery() {
-        snapshot = null;
     }
 
     // ---- notes and citations
@@ -498,7 +497,7 @@ public final class FootnoteFishery {
 
     /** Sets of notes are numbers in which the bit of a note's number tells whether it is in. */
     private static boolean has(int set, int note) {
-        return (set & bit(note)) != 0;
+        return (set >> note & 1) != 0;
     }
 
     private static int bit(int note) {
@@ -1324,16 +1323,16 @@ public final class FootnoteFishery {
         }
 
         private boolean matchesPart(char part) {
-            switch (part) {
-                case NUMBER:
-                    return matchesNumber();
-                case DIGIT:
-                    return matchesDigit(1);
-                case SIGNED_DIGIT:
-                    return matchesDigit(takes('-') ? -1 : 1);
-                default:
-                    return takes(part);
+            if (part == NUMBER) {
+                return matchesNumber();
             }
+            if (part == DIGIT) {
+                return matchesDigit(1);
+            }
+            if (part == SIGNED_DIGIT) {
+                return matchesDigit(takes('-') ? -1 : 1);
+            }
+            return takes(part);
         }
 
         private boolean matchesNumber() {

@@ -1,6 +1,10 @@
 import java.util.NoSuchElementException;
 
-/** Each promise of the document: ordinary inputs, the edges that it names, and wrong inputs. */
+/**
+ * Each promise of the document: ordinary inputs, the edges that it names, and wrong inputs. The
+ * looks at the whole state before and after a call make more than the 512 calls that the document
+ * speaks of; that is fair here because the class does not count its calls.
+ */
 public final class PromiseTest {
     private static final Class<IllegalArgumentException> BAD = IllegalArgumentException.class;
     private static final Class<NoSuchElementException> NONE = NoSuchElementException.class;
@@ -322,6 +326,12 @@ public final class PromiseTest {
         f.cite(3, 4);
         indexIs(3);
         ranksAre(4, 2, 3, 1, 0);
+        f.cite(3, 0);
+        f.cite(2, 0);
+        f.cite(4, 0);
+        f.cite(1, 0);
+        ranksAre(0, 4, 2, 3, 1);
+        indexIs(3);
         throwsOnly("rank -1", NONE, () -> f.noteByCitations(-1));
         throwsOnly("rank 5", NONE, () -> f.noteByCitations(5));
         throwsOnly("a low rank", NONE, () -> f.noteByCitations(Integer.MIN_VALUE));
@@ -445,6 +455,20 @@ public final class PromiseTest {
         f.removeNet(0);
         eq("no nets", f.removeNet(0), 0);
         throwsOnly("removeNet without nets", OUT, () -> f.removeNet(0));
+        meshesMoveAlong();
+    }
+
+    private static void meshesMoveAlong() {
+        fresh();
+        for (int mesh = 1; mesh <= 5; mesh++) {
+            f.addNet(0, 1, mesh);
+            f.addNote(0, mesh);
+        }
+        f.removeNet(1);
+        int[] catches = {5, 3, 2, 1};
+        for (int net = 0; net < 4; net++) {
+            eq("catch of " + net, f.catchSize(net), catches[net]);
+        }
     }
 
     private static void coversOnly(int net, String wanted) {
@@ -544,6 +568,9 @@ public final class PromiseTest {
         throwsOnly("bestNet without notes", NONE, () -> f.bestNet());
         f.addNote(5, 30);
         throwsOnly("bestNet without a catch", NONE, () -> f.bestNet());
+        f.addNote(1, 1);
+        eq("the least weight", f.bestNet(), 1);
+        f.undo();
         f.addNote(1, 9);
         eq("the lower of two", f.bestNet(), 1);
         f.addNote(0, 9);
@@ -628,6 +655,7 @@ public final class PromiseTest {
         chooses("not the most notes", 9, "100", 9, 4, 5);
         chooses("the low one with a high one", 8, "10001", 1, 2, 6, 2, 7);
         chooses("the greatest sum ahead of the order", 10, "0110", 9, 5, 5, 2);
+        chooses("the only note", 5, "1", 5);
         chooses("room for no note", 2, "000", 3, 4, 5);
         chooses("no room at all", 0, "0", 1);
         chooses("all ten", 99, "1111111111", 1, 2, 3, 4, 5, 6, 7, 8, 9, 10);
@@ -685,6 +713,25 @@ public final class PromiseTest {
         eq("once in the season 3", f.room(0), 99);
         f.pass(30);
         eq("once in the season 0", f.room(0), 99);
+        greatestRoom();
+    }
+
+    private static void greatestRoom() {
+        fresh();
+        f.pass(40);
+        f.pass(20);
+        f.setQuota(9, 99);
+        eq("the greatest room", f.room(9), 198);
+        for (int note = 0; note < 10; note++) {
+            f.addNote(9, note == 9 ? 18 : 30);
+        }
+        f.addNet(9, 1, 18);
+        f.buyLicence();
+        f.haul(0);
+        landingIs(198, "1111110001");
+        eq("land", f.land(), 198);
+        eq("room", f.room(9), 0);
+        eq("coins", f.coins(), 60 + 396);
     }
 
     // ---- promise 32
