@@ -1276,7 +1276,8 @@ public final class PromiseTest {
         undoes("setQuota", () -> f.setQuota(0, 3));
         undoes("setQuota to the same", () -> f.setQuota(0, 20));
         undoes("addNet", () -> f.addNet(0, 3, 10));
-        f.addNet(0, 1, 10);
+        // The nets differ in their pages and meshes, so that it shows if one of these is not undone.
+        f.addNet(1, 2, 12);
         f.addNet(0, 2, 10);
         undoes("removeNet", () -> f.removeNet(0));
         undoes("buyLicence", () -> f.buyLicence());
@@ -1288,7 +1289,8 @@ public final class PromiseTest {
         undoes("land", () -> f.land());
         f.setCurrent(0, 1);
         f.setCurrent(1, -1);
-        undoes("pass", () -> f.pass(31));
+        f.free(0);
+        undoes("pass with a drift", () -> f.pass(31));
         feed("wait 1;wait 1;quota 5=5");
         undoes("execute", () -> f.execute());
         int count = f.undoCount();
@@ -1311,9 +1313,10 @@ public final class PromiseTest {
     private static void undoes(String what, Check.Call change) {
         // Two changes of its own, so that the count is not at its limit on the way.
         FootnoteFishery kept = f;
-        while (f.undoCount() > 5) {
+        if (f.undoCount() > 5) {
             f.saveSnapshot();
             f.restoreSnapshot();
+            eq("a restored snapshot forgets the changes", f.undoCount(), 0);
         }
         String before = look();
         int count = f.undoCount();
@@ -1358,5 +1361,28 @@ public final class PromiseTest {
         eq("restore", f.restoreSnapshot(), 3);
         eq("the buffer stays", f.feed('d'), 4);
         Check.same("restored again", look().replaceFirst(" 0\n", " 2\n"), full);
+        snapshotOfWhatIsMadeAnew();
+    }
+
+    /** Notes and nets that are undone and made anew with other numbers are in the snapshot as they were. */
+    private static void snapshotOfWhatIsMadeAnew() {
+        fresh();
+        f.addNote(3, 5);
+        f.addNet(3, 2, 5);
+        f.saveSnapshot();
+        String before = look();
+        f.undo();
+        f.undo();
+        f.addNote(4, 6);
+        f.addNet(4, 1, 7);
+        eq("restore", f.restoreSnapshot(), 1);
+        eq("page", f.pageOf(0), 3);
+        eq("weight", f.weightOf(0), 5);
+        eq("catch", f.catchSize(0), 1);
+        Check.same("as it was", look().replaceFirst(" 0\n", " 2\n"), before);
+        f.setQuota(3, 9);
+        eq("one change since", f.undoCount(), 1);
+        eq("undo it", f.undo(), 0);
+        eq("quota", f.quota(3), 20);
     }
 }
