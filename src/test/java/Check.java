@@ -2,6 +2,7 @@
 final class Check {
     private static int checks = 0;
     private static int wrong = 0;
+    private static String about = "";
 
     /** A call that may throw. */
     interface Call {
@@ -11,11 +12,16 @@ final class Check {
     private Check() {
     }
 
+    /** Stands ahead of every line that is printed from now on. */
+    static void about(String text) {
+        about = text;
+    }
+
     static void that(String what, boolean holds) {
         checks++;
         if (!holds) {
             wrong++;
-            System.out.println("wrong: " + what);
+            System.out.println("wrong: " + about + what);
         }
     }
 
@@ -43,6 +49,10 @@ final class Check {
 
     static int wrongSoFar() {
         return wrong;
+    }
+
+    static int checksSoFar() {
+        return checks;
     }
 
     static void end(String name) {
