@@ -52,6 +52,19 @@ public final class HoldBoundsTest extends Bounds {
         Check.same("all float", states(f), "ffffffffff");
     }
 
+    @Sentence(under = "Promise 32: free", says = "Returns one held note, which floats on its page again.")
+    static void freedNotesFloatAgain() {
+        f = made(held(99, 5, 6));
+        f.setCurrent(0, -1);
+        f.free(1);
+        Check.same("one note alone", states(f), "hf");
+        eq("on its page", f.floatingOn(0), 1);
+        eq("it drifts", f.pass(1), 1);
+        eq("before the page 0", f.pageOf(1), 11);
+        eq("the other stays", f.pageOf(0), 0);
+        eq("returned", f.returned(), 1);
+    }
+
     @Sentence(under = "Promise 32: free", says = "Throws `NoSuchElementException` if there is no such note")
     static void freeNeedsNote() {
         needsNote("free", (x, note) -> x.free(note));

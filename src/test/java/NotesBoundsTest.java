@@ -369,6 +369,25 @@ public final class NotesBoundsTest extends Bounds {
         eq("only eight are", f.indexByCounts(), 8);
     }
 
+    @Sentence(under = "Promise 16: indexByCounts", says = "Returns the same number as index")
+    static void emptyAgainAfterAllCitations() {
+        f.saveSnapshot();
+        notes(10).on(f);
+        allCiteAll(f);
+        eq("full", f.index() + f.indexByCounts(), 18);
+        eq("full", f.circles() + f.circlesByTable(), 2);
+        eq("full", f.noteByCitations(9), 0);
+        f.restoreSnapshot();
+        eq("empty", f.index() + f.indexByCounts(), 0);
+        eq("empty", f.circles() + f.circlesByTable(), 0);
+        Check.thrown("empty", NONE, () -> f.noteByCitations(0));
+        f.addNote(0, 1);
+        eq("one note", f.index() + f.indexByCounts(), 0);
+        eq("one note", f.circles() + f.circlesByTable(), 0);
+        eq("one note", f.noteByCitations(0), 0);
+        eq("it cites none", f.citedBy(0), 0);
+    }
+
     @Sentence(under = "Promise 17: noteByCitations", says = "- `rank`: the rank, from 0")
     static void noteByCitationsTakesRanksFrom0() {
         f.addNote(0, 1);

@@ -511,6 +511,29 @@ public final class ReasonsBoundsTest extends Bounds {
     }
 
     @Sentence(under = "Terms", says = "that do not throw an exception are the changes")
+    static void everyRemovalOfANetIsUndoneWhole() {
+        Step five = x -> {
+            for (int net = 0; net < 5; net++) {
+                x.addNet(net, 11 - net, 10 + net);
+                x.addNote(10, 10 + net);
+            }
+        };
+        for (int net = 0; net < 5; net++) {
+            FootnoteFishery x = made(five);
+            x.removeNet(net);
+            Check.that("another state", !Look.STATE.at(x).equals(Look.STATE.at(made(five))));
+            x.undo();
+            Check.same("first pages, spans and meshes", Look.STATE.at(x), Look.STATE.at(made(both(five, ReasonsBoundsTest::undone))));
+        }
+    }
+
+    /** Makes a change that is undone, so that as many changes are forgotten. */
+    private static void undone(FootnoteFishery x) {
+        x.setQuota(0, 1);
+        x.undo();
+    }
+
+    @Sentence(under = "Terms", says = "that do not throw an exception are the changes")
     static void throwingCallsAreNoChanges() {
         notChange("addNote", x -> x.addNote(12, 1));
         notChange("cite", x -> x.cite(0, 1));

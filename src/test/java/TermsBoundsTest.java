@@ -536,20 +536,58 @@ public final class TermsBoundsTest extends Bounds {
         eq("the greatest in the season 2", f.room(0), 168);
     }
 
+    @Sentence(under = "Terms", says = "less the weight that has been landed on it in this season, but at least 0")
+    static void landingsOfASeasonAddUp() {
+        f = made(held(20, 10, 30));
+        f.land();
+        eq("after one landing", f.room(0), 10);
+        f.addNote(0, 10);
+        f.addNote(0, 1);
+        f.haul(0);
+        eq("the second landing", f.land(), 10);
+        eq("after two landings", f.room(0), 0);
+        f.haul(0);
+        eq("the third landing", f.land(), 0);
+        f.setQuota(0, 21);
+        eq("a unit more", f.room(0), 1);
+        f.haul(0);
+        eq("the fourth landing", f.land(), 1);
+        eq("after four landings", f.room(0), 0);
+    }
+
+    @Sentence(under = "Terms", says = "the greatest sum that is not greater than the room of the page")
+    static void greatestRoomIsFilled() {
+        // Ten notes, and the room of 198 that a quota of 99 makes in the season 2.
+        int[] lightest = {17, 18, 19};
+        int[] sums = {197, 198, 180};
+        String[] dues = {"llllllfffl", "llllllfffl", "llllllffff"};
+        for (int i = 0; i < lightest.length; i++) {
+            int[] weights = times(10, 30);
+            weights[9] = lightest[i];
+            FootnoteFishery x = made(both(held(99, weights), day(60)));
+            eq("room", x.room(0), 198);
+            lands("beside the weight " + lightest[i], x, sums[i], dues[i]);
+            eq("room afterwards", x.room(0), 198 - sums[i]);
+        }
+    }
+
     private static void landsOf(int room, String due, int... weights) {
-        FootnoteFishery x = made(held(room, weights));
         int sum = 0;
         for (int note = 0; note < weights.length; note++) {
             sum += due.charAt(note) == 'l' ? weights[note] : 0;
         }
-        String what = "room " + room + ", landing " + due;
-        eq(what, x.bestLanding(), sum);
-        eq(what, x.bestLandingBySets(), sum);
-        for (int note = 0; note < weights.length; note++) {
-            Check.that(what + ", note " + note, x.wouldLand(note) == (due.charAt(note) == 'l'));
+        lands("the room " + room, made(held(room, weights)), sum, due);
+    }
+
+    /** Lands the hold, with this weight and these states of the notes afterwards, as the calls foretell. */
+    private static void lands(String what, FootnoteFishery x, int sum, String due) {
+        eq(what + ", best landing", x.bestLanding(), sum);
+        eq(what + ", best landing by sets", x.bestLandingBySets(), sum);
+        for (int note = 0; note < x.noteCount(); note++) {
+            Check.that(what + ", the note " + note + " of " + due, x.wouldLand(note) == (due.charAt(note) == 'l'));
         }
-        eq(what, x.land(), sum);
-        Check.same(what, states(x), due);
+        eq(what + ", landing", x.land(), sum);
+        Check.same(what + ", states", states(x), due);
     }
 
     @Sentence(under = "Terms", says = "whose weights together are the greatest sum that is not greater than the room of the page")

@@ -181,6 +181,21 @@ public final class TextsBoundsTest extends Bounds {
         lineIs("1p0w10f>0>2>9");
     }
 
+    @Sentence(under = "Promise 51: writeNote", says = "Example: \"3p11w7h>0>4\".")
+    static void writeNoteWritesTheExample() {
+        passTo(f, 30);
+        notes(3).on(f);
+        f.addNote(11, 7);
+        f.addNote(0, 1);
+        f.cite(3, 4);
+        f.cite(3, 0);
+        f.addNet(11, 1, 7);
+        f.buyLicence();
+        f.haul(0);
+        eq("length", f.writeNote(3), 11);
+        lineIs("3p11w7h>0>4");
+    }
+
     private static void lineIs(String line) {
         for (int i = 0; i < line.length(); i++) {
             eq("character " + i + " of " + line, f.lineCharacter(i), line.charAt(i));
@@ -459,6 +474,30 @@ public final class TextsBoundsTest extends Bounds {
             eq("notes", f.noteCount(), 3);
         }
         eq("restored without a change", f.restoreSnapshot(), 3);
+    }
+
+    @Sentence(under = "Promise 59: restoreSnapshot", says = "Restores the snapshot")
+    static void restoreSnapshotOfWhatWasMadeAnew() {
+        Step first = x -> {
+            x.addNet(11, 2, 29);
+            x.addNote(11, 30);
+            x.addNote(0, 29);
+            x.cite(0, 1);
+        };
+        Step second = x -> {
+            undoAll(x);
+            x.addNet(5, 3, 1);
+            x.addNote(5, 1);
+            x.addNote(6, 2);
+            x.cite(1, 0);
+        };
+        f = made(first);
+        f.saveSnapshot();
+        second.on(f);
+        eq("notes", f.restoreSnapshot(), 2);
+        FootnoteFishery x = made(both(first, y -> y.saveSnapshot()));
+        x.restoreSnapshot();
+        Check.same("as it was", Look.STATE.at(f), Look.STATE.at(x));
     }
 
     @Sentence(under = "Promise 59: restoreSnapshot", says = "No change can be undone afterwards.")
